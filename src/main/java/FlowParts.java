@@ -66,7 +66,8 @@ public final class FlowParts {
         if (whole.rows >= MOST_ROWS) {
             throw new IllegalStateException("there are 8 rows");
         }
-        if (kind != KIND_AT_MOST && kind != KIND_EQUAL || !isWithin(right, MOST_RIGHT)) {
+        boolean isKind = kind == KIND_AT_MOST || kind == KIND_EQUAL;
+        if (!isKind || !isWithin(right, MOST_RIGHT)) {
             throw new IllegalArgumentException("a number of the row is not as told");
         }
         solved = SOLVED_NOTHING;
@@ -491,15 +492,12 @@ public final class FlowParts {
         }
 
         private boolean canBeArc(int column) {
-            int count = 0;
             for (int row = 0; row < whole.rows; row++) {
-                int a = whole.a[row][column];
-                if (!isWithin(a, 1)) {
+                if (!isWithin(whole.a[row][column], 1)) {
                     return false;
                 }
-                count += a == 0 ? 0 : 1;
             }
-            return count <= 2;
+            return whole.countTerms(column) <= 2;
         }
 
         /** Whether there still are signs with this column. */
@@ -572,8 +570,8 @@ public final class FlowParts {
             for (int column = 0; column < whole.columns; column++) {
                 int above = rowsAbove[column];
                 int below = rowsBelow[column];
-                int more = Integer.bitCount(above & one | below & other);
-                int less = Integer.bitCount(above & other | below & one);
+                int more = Integer.bitCount((above & one) | (below & other));
+                int less = Integer.bitCount((above & other) | (below & one));
                 if (!isWithin(more - less, 1)) {
                     return false;
                 }
@@ -903,7 +901,7 @@ public final class FlowParts {
         private int addUp(Whole whole, int[] signs, int set, int column) {
             int total = 0;
             for (int row = 0; row < whole.rows; row++) {
-                if ((set >> row & 1) == 1) {
+                if (isIn(set, row)) {
                     total += whole.a[row][column] * signs[row];
                 }
             }
@@ -913,7 +911,7 @@ public final class FlowParts {
         private int addRights(Whole whole, int[] signs, int set) {
             int total = 0;
             for (int row = 0; row < whole.rows; row++) {
-                if ((set >> row & 1) == 1) {
+                if (isIn(set, row)) {
                     total += whole.right[row] * signs[row];
                 }
             }
@@ -922,12 +920,16 @@ public final class FlowParts {
 
         private boolean mayStand(Whole whole, int[] signs, int set, int side) {
             for (int row = 0; row < whole.rows; row++) {
-                boolean within = (set >> row & 1) == 1;
-                if (within && whole.kind[row] == KIND_AT_MOST && signs[row] != side) {
+                boolean bound = whole.kind[row] == KIND_AT_MOST && isIn(set, row);
+                if (bound && signs[row] != side) {
                     return false;
                 }
             }
             return true;
+        }
+
+        private static boolean isIn(int set, int row) {
+            return ((set >> row) & 1) == 1;
         }
     }
 
