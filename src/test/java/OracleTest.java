@@ -1,4 +1,8 @@
+import java.lang.reflect.InvocationTargetException;
+import java.lang.reflect.Method;
+import java.lang.reflect.Modifier;
 import java.util.ArrayList;
+import java.util.Arrays;
 import java.util.List;
 import java.util.Random;
 
@@ -9,6 +13,8 @@ public final class OracleTest {
         "intervals", "nature", "knapsack", "matching", "way", "solve", "at", "value", "sum", "price",
         "reduced", "proof", "side"
     };
+    private static final Method[] OF_REAL = methodsOf(FlowParts.class);
+    private static final Method[] OF_ORACLE = methodsOf(Oracle.class);
 
     private final Random random;
     private FlowParts real;
@@ -25,81 +31,42 @@ public final class OracleTest {
         return low + random.nextInt(high - low + 1);
     }
 
-    private int ask(FlowParts x, int call, int a, int b, int c) {
-        switch (call) {
-            case 0: return x.column(a, b, c);
-            case 1: return x.row(a, b);
-            case 2: x.term(a, b, c); return 0;
-            case 3: x.bounds(a, b, c); return 0;
-            case 4: return x.cost(a, b);
-            case 5: return x.right(a, b);
-            case 6: return x.clear();
-            case 7: return x.parts();
-            case 8: return x.part(a);
-            case 9: return x.flow();
-            case 10: return x.sign(a);
-            case 11: return x.intervals();
-            case 12: return x.nature();
-            case 13: return x.knapsack() ? 1 : 0;
-            case 14: return x.matching() ? 1 : 0;
-            case 15: return x.way() ? 1 : 0;
-            case 16: return x.solve();
-            case 17: return x.at(a);
-            case 18: return x.value();
-            case 19: return x.sum(a);
-            case 20: return x.price(a);
-            case 21: return x.reduced(a);
-            case 22: return x.proof();
-            default: return x.side();
+    private static Method[] methodsOf(Class<?> face) {
+        Method[] methods = new Method[NAMES.length];
+        for (Method method : face.getDeclaredMethods()) {
+            int call = Arrays.asList(NAMES).indexOf(method.getName());
+            if (call >= 0 && !Modifier.isPrivate(method.getModifiers())) {
+                methods[call] = method;
+            }
         }
+        return methods;
     }
 
-    private int ask(Oracle x, int call, int a, int b, int c) {
-        switch (call) {
-            case 0: return x.column(a, b, c);
-            case 1: return x.row(a, b);
-            case 2: x.term(a, b, c); return 0;
-            case 3: x.bounds(a, b, c); return 0;
-            case 4: return x.cost(a, b);
-            case 5: return x.right(a, b);
-            case 6: return x.clear();
-            case 7: return x.parts();
-            case 8: return x.part(a);
-            case 9: return x.flow();
-            case 10: return x.sign(a);
-            case 11: return x.intervals();
-            case 12: return x.nature();
-            case 13: return x.knapsack() ? 1 : 0;
-            case 14: return x.matching() ? 1 : 0;
-            case 15: return x.way() ? 1 : 0;
-            case 16: return x.solve();
-            case 17: return x.at(a);
-            case 18: return x.value();
-            case 19: return x.sum(a);
-            case 20: return x.price(a);
-            case 21: return x.reduced(a);
-            case 22: return x.proof();
-            default: return x.side();
+    private static String answer(Object x, Method method, int... numbers) {
+        Object[] arguments = new Object[method.getParameterCount()];
+        for (int k = 0; k < arguments.length; k++) {
+            arguments[k] = numbers[k];
         }
-    }
-
-    private String answer(boolean byOracle, int call, int a, int b, int c) {
         try {
-            return "" + (byOracle ? ask(oracle, call, a, b, c) : ask(real, call, a, b, c));
-        } catch (RuntimeException e) {
-            return "throws." + e.getClass().getSimpleName();
+            return String.valueOf(method.invoke(x, arguments));
+        } catch (InvocationTargetException e) {
+            return "throws." + e.getCause().getClass().getSimpleName();
+        } catch (IllegalAccessException e) {
+            throw new AssertionError(e);
         }
     }
 
-    private String both(int call, int a, int b, int c) {
-        String want = answer(true, call, a, b, c);
-        String got = answer(false, call, a, b, c);
+    private void both(int call, int a, int b, int c) {
+        String want = answer(oracle, OF_ORACLE[call], a, b, c);
+        String got = answer(real, OF_REAL[call], a, b, c);
+        if (want.equals("throws.AssertionError")) {
+            throw new AssertionError("the oracle does not know: " + told);
+        }
         told.add(NAMES[call] + "(" + a + "," + b + "," + c + ") = " + want);
         Due.same(got.equals(want) ? "" : String.join("\n  ", told) + "\n  which", got, want);
         if (!want.startsWith("throws")) {
             seen[call]++;
         }
-        return want;
     }
 
     private void askAll() {
