@@ -2,8 +2,14 @@
 final class Due {
     private static int asked = 0;
     private static int wrong = 0;
+    private static String sentence = "";
 
     private Due() {
+    }
+
+    /** The sentence of the document that the next answers are about. */
+    static void about(String itsSentence) {
+        sentence = "[" + itsSentence + "] ";
     }
 
     static void same(String call, long got, long want) {
@@ -43,7 +49,7 @@ final class Due {
     private static void say(String line) {
         wrong++;
         if (wrong <= 50) {
-            System.out.println(line);
+            System.out.println(sentence + line);
         }
     }
 
