@@ -956,7 +956,7 @@ public final class FlowParts {
         /** Packs of 1, 2, 4, .. and a rest make up every number up to the most, and are few. */
         private void putInPacks(Whole whole, int column, int load) {
             int left = mostOf(whole, column, load);
-            for (int pack = 1; left > 0; pack *= 2) {
+            for (int pack = 1; left > 0 && pack <= MOST_LOAD; pack *= 2) {
                 int size = Math.min(pack, left);
                 putPack(least[column], size * whole.a[0][column], size * whole.cost[column], load);
                 left -= size;

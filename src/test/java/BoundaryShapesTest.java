@@ -265,9 +265,14 @@ public final class BoundaryShapesTest {
         Due.same("a ring that can be parted", ring(1).nature(), NONE);
     }
 
+    /** The column with the given numbers stands last and then first: that must not matter. */
     private static int sack(int kind, int right, int a, int low) {
-        int[][] columns = {{0, 3, -1}, {low, 3, -1}};
-        return Told.asInt(Told.whole(columns, new int[][] {{kind, right, 3, a}}).knapsack());
+        int[][] last = {{0, 3, -1}, {low, 3, -1}};
+        int[][] first = {{low, 3, -1}, {0, 3, -1}};
+        int answer = Told.asInt(Told.whole(last, new int[][] {{kind, right, 3, a}}).knapsack());
+        int other = Told.asInt(Told.whole(first, new int[][] {{kind, right, a, 3}}).knapsack());
+        Due.same("the columns changed", other, answer);
+        return answer;
     }
 
     private static void knapsackNumbers() {
@@ -304,9 +309,14 @@ public final class BoundaryShapesTest {
         Due.same("high 0 and right 0", Told.asInt(zero.knapsack()), 1);
     }
 
+    /** As with sack(), the column and the row with the given numbers stand last and then first. */
     private static int pairs(int a, int right, int low, int high) {
-        int[][] columns = {{0, 1, 5}, {low, high, -5}};
-        return Told.asInt(Told.whole(columns, new int[][] {{0, 1, 1, 0}, {1, right, 1, a}}).matching());
+        int[][] last = {{0, 1, 5}, {low, high, -5}};
+        int[][] first = {{low, high, -5}, {0, 1, 5}};
+        int answer = Told.asInt(Told.whole(last, new int[][] {{0, 1, 1, 0}, {1, right, 1, a}}).matching());
+        int other = Told.asInt(Told.whole(first, new int[][] {{1, right, a, 1}, {0, 1, 0, 1}}).matching());
+        Due.same("the columns and rows changed", other, answer);
+        return answer;
     }
 
     private static void matchingNumbers() {
@@ -399,6 +409,11 @@ public final class BoundaryShapesTest {
             Due.same("kinds " + kinds, Told.asInt(x.way()), Told.asInt(kinds == 7));
         }
         FlowParts x = Told.whole(Told.same(2, 0, 1, 0), new int[][] {{1, -1, -1, -1}, {1, 1, 1, 1}, {1, 0, 0, 0}});
+        for (int column = 0; column < 2; column++) {
+            x.cost(column, -1);
+            Due.same("a cost of -1 in column " + column, Told.asInt(x.way()), 0);
+            x.cost(column, 0);
+        }
         Due.same("two columns", Told.asInt(x.way()), 1);
         x.term(1, 1, 0);
         Due.same("a column with one term", Told.asInt(x.way()), 0);

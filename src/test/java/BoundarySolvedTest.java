@@ -146,6 +146,31 @@ public final class BoundarySolvedTest {
         }
     }
 
+    private static void fullWhole() {
+        Due.about("10 columns and 8 rows of KIND 0 are SOLVED");
+        FlowParts x = Told.whole(Told.same(10, 0, 1000, -1000), Told.same(8, 0, 100000));
+        for (int column = 0; column < 10; column++) {
+            x.term(column % 8, column, 1);
+            x.term((column + 1) % 8, column, -1);
+        }
+        Due.same("solve()", x.solve(), 1);
+        Due.same("value()", x.value(), -10000000);
+        Due.same("sum(0)", x.sum(0), 1000);
+        Due.same("sum(2)", x.sum(2), -1000);
+        Due.same("price(7)", x.price(7), 0);
+        for (int row = 0; row < 8; row++) {
+            x.right(row, row == 7 ? -1 : 0);
+        }
+        Due.same("the sums of a ring add up to 0, not to -1", x.solve(), 0);
+        Due.same("proof()", x.proof(), 255);
+        Due.same("side()", x.side(), 1);
+        x.right(7, 0);
+        Due.same("all rights 0", x.solve(), 1);
+        Due.same("all sums are 0 then", x.sum(7), 0);
+        // Columns 0 and 8 go from row 1 to row 0, columns 1 and 9 from row 2 to row 1.
+        points("all rights 0", x, 0, 0, 1000, 1000, 1000, 1000, 1000, 1000, 1000, 1000);
+    }
+
     private static void fullSums() {
         Due.about("a row HOLDS at its RIGHT, with all columns at a bound");
         int[][] numbers = {{10000, 1}, {10001, 0}, {-10000, 1}, {-10001, 0}};
@@ -281,6 +306,9 @@ public final class BoundarySolvedTest {
         prices("one below the high, cost 7", one(0, 5, 7, 1, 4), 7);
         prices("at the high, cost 7", one(0, 5, 7, 1, 5), 7);
         prices("at the high, cost -7", one(0, 5, -7, 1, 5), 0);
+        prices("between, cost 1", one(0, 5, 1, 1, 3), 1);
+        prices("between, cost -1", one(0, 5, -1, 1, 3), -1);
+        prices("between, cost 0", one(0, 5, 0, 1, 3), 0);
         prices("low is high, cost 7", one(5, 5, 7, 1, 5), 0);
         prices("low is high, cost -7", one(5, 5, -7, 1, 5), 0);
         Due.same("low is high, reduced(0)", one(5, 5, -7, 1, 5).reduced(0), -7);
@@ -313,6 +341,10 @@ public final class BoundarySolvedTest {
         x.cost(0, -4);
         x.solve();
         prices("row 1 may not be above 0, so row 0 pays", x, 4, 0);
+        x.cost(0, 4);
+        x.right(1, -1);
+        x.solve();
+        prices("row 1's sum is one below its right, so row 0 pays", x, -4, 0);
         FlowParts y = Told.whole(Told.same(1, 0, 5, 4), new int[][] {{0, 0, -1}, {0, -2, -1}});
         Due.same("solve()", y.solve(), 1);
         prices("the second row is the one that is full", y, 0, -4);
@@ -474,6 +506,7 @@ public final class BoundarySolvedTest {
         refusedWithoutPoint();
         refusedForKnapsack();
         farthestBest();
+        fullWhole();
         fullSums();
         lastColumnsOfEquals();
         valueBeforeOrder();
