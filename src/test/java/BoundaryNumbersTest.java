@@ -393,6 +393,38 @@ public final class BoundaryNumbersTest {
         Due.same("told anew it is the same", Told.state(y), Told.state(solved()));
     }
 
+    /** What a larger whole has left in the object must not be seen in a smaller one. */
+    private static void clearedAndSmaller() {
+        Due.about("There are no columns and rows then, whatever was SOLVED before");
+        int[][] sack = {{0, 300, 2, 2, 2, 2, 2, 2, 2, 2, 2, 2}};
+        FlowParts[] used = {
+            Told.whole(Told.same(10, 0, 1000, -1000), Told.same(8, 0, 100000, 1)),
+            Told.whole(Told.same(10, -1000, 1000, 1000), Told.same(8, 1, 0)),
+            Told.whole(Told.same(10, 0, 0, 0), Told.same(8, 1, 100000)),
+            Told.whole(Told.same(10, 0, 1000, -1000), sack),
+        };
+        for (FlowParts x : used) {
+            x.solve();
+            x.nature();
+            x.clear();
+            Due.same("solve() right after clear()", x.solve(), 1);
+            Due.same("value() then", x.value(), 0);
+            x.row(1, 1);
+            x.column(0, 9, 3);
+            x.term(0, 0, 1);
+            x.row(0, 0);
+            FlowParts fresh = Told.whole(new int[][] {{0, 9, 3}}, new int[][] {{1, 1, 1}, {0, 0, 0}});
+            x.solve();
+            fresh.solve();
+            Due.same("as in a new object", Told.state(x), Told.state(fresh));
+            x.row(0, 7);
+            x.column(0, 9, -3);
+            x.term(0, 0, 3);
+            FlowParts other = Told.whole(new int[][] {{0, 9, -3}}, new int[][] {{0, 7, 3}});
+            Due.same("a knapsack as in a new object", Told.state(x), Told.state(other));
+        }
+    }
+
     public static void main(String[] args) {
         newObject();
         objectsApart();
@@ -416,6 +448,7 @@ public final class BoundaryNumbersTest {
         withoutColumns();
         costsAndRightsBefore();
         cleared();
+        clearedAndSmaller();
         Due.end();
     }
 }

@@ -424,6 +424,26 @@ public final class BoundaryShapesTest {
         Due.same("no flow", Told.asInt(x.way()), 0);
     }
 
+    private static void fullWay() {
+        Due.about("A WAY of 10 columns and 8 rows");
+        FlowParts x = Told.whole(Told.same(10, 0, 1, 0), Told.same(8, 1, 0));
+        for (int column = 0; column < 10; column++) {
+            x.term(column % 8, column, -1);
+            x.term((column + 1) % 8, column, 1);
+        }
+        Due.same("no ends", Told.asInt(x.way()), 0);
+        x.right(7, 1);
+        Due.same("one end", Told.asInt(x.way()), 0);
+        x.right(0, -1);
+        Due.same("both ends", Told.asInt(x.way()), 1);
+        x.right(6, 1);
+        Due.same("one end too many", Told.asInt(x.way()), 0);
+        x.right(7, 0);
+        Due.same("the end in another row", Told.asInt(x.way()), 1);
+        x.bounds(9, 0, 0);
+        Due.same("the last column's high 0", Told.asInt(x.way()), 0);
+    }
+
     public static void main(String[] args) {
         noRows();
         rowByItself();
@@ -450,6 +470,7 @@ public final class BoundaryShapesTest {
         wayNumbers();
         wayEnds();
         wayShape();
+        fullWay();
         Due.end();
     }
 }
