@@ -30,8 +30,8 @@ public final class FlowParts {
     /** Beyond every distance and every limit, and twice it is still an int. */
     private static final int FAR = 1000000000;
 
-    private final Whole whole;
     private final Shape shape;
+    private final Whole whole;
     private final Network network;
     private final Prices prices;
     private final Proof noPoint;
@@ -40,8 +40,8 @@ public final class FlowParts {
     private int solved;
 
     public FlowParts() {
-        whole = new Whole();
-        shape = new Shape(whole);
+        shape = new Shape();
+        whole = shape.whole;
         network = new Network();
         prices = new Prices();
         noPoint = new Proof();
@@ -340,17 +340,13 @@ public final class FlowParts {
         }
     }
 
-    /** What the whole is; parts and signs are found anew each time, as the whole may change. */
+    /** A whole and what it is; parts and signs are found anew each time, as the whole may change. */
     private static final class Shape {
-        private final Whole whole;
+        final Whole whole = new Whole();
         final int[] leastRow = new int[MOST_ROWS];
         final int[] signs = new int[MOST_ROWS];
         private final int[] rowsAbove = new int[MOST_COLUMNS];
         private final int[] rowsBelow = new int[MOST_COLUMNS];
-
-        Shape(Whole itsWhole) {
-            whole = itsWhole;
-        }
 
         /** How many parts; leastRow then names them. */
         int findParts() {

@@ -31,22 +31,27 @@ public final class CertificateTest {
 
     private void tell(int widest, int dearest) {
         int[] point = new int[columns];
+        boolean near = random.nextInt(4) > 0;
+        // Narrow bounds, rows in a chain, a small fault: it takes many rows to prove that no point fits.
+        boolean narrow = !near && random.nextBoolean();
         for (int j = 0; j < columns; j++) {
             low[j] = from(-widest, widest);
-            high[j] = from(low[j], widest);
+            high[j] = from(low[j], narrow ? Math.min(low[j] + 2, widest) : widest);
             cost[j] = from(-dearest, dearest);
             point[j] = from(low[j], high[j]);
             x.column(low[j], high[j], cost[j]);
         }
-        tellTerms();
-        boolean near = random.nextInt(4) > 0;
+        tellTerms(narrow);
         for (int i = 0; i < rows; i++) {
             int sum = 0;
             for (int j = 0; j < columns; j++) {
                 sum += a[i][j] * point[j];
             }
-            kind[i] = from(0, 1);
-            right[i] = sum + (kind[i] == 0 ? from(0, widest / 4) : 0) + (near ? 0 : from(-1, 1) * from(0, widest));
+            kind[i] = narrow && random.nextInt(3) > 0 ? 1 : from(0, 1);
+            right[i] = sum + (kind[i] == 0 && !narrow ? from(0, widest / 4) : 0);
+            if (!near && random.nextInt(3) == 0) {
+                right[i] += (kind[i] == 0 ? -1 : from(0, 1) * 2 - 1) * from(1, narrow ? 2 : widest);
+            }
             x.row(kind[i], right[i]);
         }
         for (int i = 0; i < rows; i++) {
@@ -56,11 +61,14 @@ public final class CertificateTest {
         }
     }
 
-    private void tellTerms() {
+    private void tellTerms(boolean chained) {
         int minus = random.nextInt(256);
         for (int j = 0; j < columns && rows > 0; j++) {
-            int one = from(0, rows - 1);
+            int one = chained ? j % rows : from(0, rows - 1);
             int other = random.nextInt(5) == 0 ? one : from(0, rows - 1);
+            if (chained && random.nextInt(4) > 0) {
+                other = (one + 1) % rows;
+            }
             int b = from(0, 1) * 2 - 1;
             a[one][j] = b;
             if (other != one) {
@@ -88,6 +96,41 @@ public final class CertificateTest {
             left += Math.min(total * lows[j], total * highs[j]);
         }
         Due.holds(name + "the proof that no point fits", left > 0);
+    }
+
+    /** No lesser set proves it on either side, and the set itself not on side 1 if that is not the answer. */
+    private void proveLeast(int[] proofs) {
+        int set = x.proof();
+        int side = x.side();
+        proofs[Integer.bitCount(set)]++;
+        int[] signs = new int[rows];
+        for (int i = 0; i < rows; i++) {
+            signs[i] = x.sign(i);
+        }
+        for (int lesser = 0; lesser < set; lesser++) {
+            Due.holds(name + "set " + lesser + " proves nothing before " + set,
+                    !proves(lesser, 1, signs) && !proves(lesser, -1, signs));
+        }
+        Due.holds(name + "side 1 comes first", side == 1 || !proves(set, 1, signs));
+    }
+
+    private boolean proves(int set, int side, int[] signs) {
+        int left = 0;
+        for (int i = 0; i < rows; i++) {
+            boolean isIn = (set >> i & 1) == 1;
+            if (isIn && kind[i] == 0 && signs[i] != side) {
+                return false;
+            }
+            left -= isIn ? right[i] * signs[i] * side : 0;
+        }
+        for (int j = 0; j < columns; j++) {
+            int total = 0;
+            for (int i = 0; i < rows; i++) {
+                total += (set >> i & 1) * a[i][j] * signs[i] * side;
+            }
+            left += Math.min(total * low[j], total * high[j]);
+        }
+        return left > 0;
     }
 
     private void proveBest(int[] lows, int[] highs) {
@@ -192,7 +235,7 @@ public final class CertificateTest {
         return true;
     }
 
-    private int run(int widest, int dearest) {
+    private int run(int widest, int dearest, int[] proofs) {
         tell(widest, dearest);
         Due.same(name + "flow()", x.flow(), FlowParts.NONE);
         Due.same(name + "nature()", x.nature(), FlowParts.NONE);
@@ -204,21 +247,24 @@ public final class CertificateTest {
         } else {
             Due.same(name + "solve()", answer, 0);
             proveNone(low, high);
+            proveLeast(proofs);
         }
         return answer;
     }
 
     public static void main(String[] args) {
         int[] counts = new int[2];
+        int[] proofs = new int[9];
         for (long seed = 0; seed < 6000 && !Due.anyWrong(); seed++) {
             int columns = seed % 3 == 0 ? (int) (seed % 11) : 10;
             int rows = seed % 5 == 0 ? 8 : (int) (seed % 9);
             int widest = seed % 2 == 0 ? 1000 : 30;
             int dearest = seed % 7 < 3 ? 1000 : seed % 7 < 5 ? 3 : 1;
-            counts[new CertificateTest(seed, columns, rows).run(widest, dearest)]++;
+            counts[new CertificateTest(seed, columns, rows).run(widest, dearest, proofs)]++;
         }
         Due.holds("many with a best point", counts[1] > 1000);
         Due.holds("many without a point", counts[0] > 300);
+        Due.holds("many proofs of several rows", proofs[2] > 100 && counts[0] - proofs[1] - proofs[2] > 50);
         Due.end();
     }
 }

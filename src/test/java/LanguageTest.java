@@ -19,7 +19,8 @@ public final class LanguageTest {
         {"3", "\\b(double|float|Object|var)\\b"}, {"4", "\\w+Exact\\b"}, {"4", "\\bSystem\\.(?!arraycopy\\b)"},
         {"4", "\\bString\\.(format|valueOf|join)\\b"}, {"5", "\\bstatic\\s*\\{"},
         {"6", "\\b(finally|synchronized|assert|extends\\s+\\w*Exception|getMessage)\\b"},
-        {"6", "\\b(try|catch)\\b"}, {"6", "\\.(equals|hashCode|toString)\\("}, {"13", "\\b(Thread|Random|nanoTime)\\b"}
+        {"6", "\\b(try|catch)\\b"}, {"6", "\\.(equals|hashCode|toString)\\("},
+        {"12", "\\bnew (?!\\w+Exception\\b)\\w+\\([^)]"}, {"12", "\\bthis\\b"}, {"13", "\\b(Thread|Random|nanoTime)\\b"}
     };
     private static final Set<String> IMPORTS =
             Set.of("java.util.Arrays", "java.util.ArrayList", "java.util.List");

@@ -69,19 +69,25 @@ public final class OracleTest {
         }
     }
 
-    private void askAll() {
+    private void askShape() {
         both(7, 0, 0, 0);
         both(9, 0, 0, 0);
         for (int call = 11; call <= 15; call++) {
             both(call, 0, 0, 0);
         }
+        for (int row = -1; row <= oracle.rows; row++) {
+            both(8, row, 0, 0);
+            both(10, row, 0, 0);
+        }
+    }
+
+    private void askAll() {
+        askShape();
         both(16, 0, 0, 0);
         both(18, 0, 0, 0);
         both(22, 0, 0, 0);
         both(23, 0, 0, 0);
         for (int row = -1; row <= oracle.rows; row++) {
-            both(8, row, 0, 0);
-            both(10, row, 0, 0);
             both(19, row, 0, 0);
             both(20, row, 0, 0);
         }
@@ -218,6 +224,47 @@ public final class OracleTest {
         askAll();
     }
 
+    /** As many rows and columns as there may be; what it is alone, as the oracle can't solve these. */
+    private void fullRun() {
+        start();
+        int rows = from(5, 8);
+        for (int row = 0; row < rows; row++) {
+            both(1, 1, 0, 0);
+        }
+        tellColumns(from(6, 10), 0, 0, 0, 1);
+        switch (random.nextInt(3)) {
+            case 0: tellArcs(random.nextInt(3) > 0); break;
+            case 1: tellSpans(); break;
+            default: tellFew();
+        }
+        askShape();
+        for (int again = 0; again < 3; again++) {
+            both(2, from(0, rows - 1), from(0, oracle.columns - 1), from(-1, 1));
+            askShape();
+        }
+    }
+
+    /** Rows one behind the other; turned rows and columns are no intervals, but whole by nature still. */
+    private void tellSpans() {
+        int minus = random.nextInt(2) * random.nextInt(256);
+        for (int column = 0; column < oracle.columns; column++) {
+            int turn = minus == 0 ? 1 : from(0, 1) * 2 - 1;
+            int last = from(0, oracle.rows - 1);
+            for (int row = from(0, last); row <= last; row++) {
+                both(2, row, column, (minus >> row & 1) == 1 ? -turn : turn);
+            }
+        }
+    }
+
+    /** Few terms, so that parts are many and the first set that can't be parted is a late one. */
+    private void tellFew() {
+        for (int column = 0; column < oracle.columns; column++) {
+            for (int count = from(0, 3); count > 0; count--) {
+                both(2, from(0, oracle.rows - 1), column, from(0, 1) * 2 - 1);
+            }
+        }
+    }
+
     /** Calls in any order, with wrong numbers among them. */
     private void wildRun() {
         start();
@@ -245,6 +292,7 @@ public final class OracleTest {
             test.unitRun();
             test.knapsackRun();
             test.anyRun();
+            test.fullRun();
             test.wildRun();
         }
         for (int call = 0; call < NAMES.length; call++) {
