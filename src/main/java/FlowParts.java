@@ -553,13 +553,12 @@ public final class FlowParts {
 
         /** The two sides may change places, so the last row can always stay on the second. */
         private boolean canBeParted(int others, int last) {
-            int one = others;
-            boolean found = isParting(one, last);
-            while (!found && one > 0) {
-                one = (one - 1) & others;
-                found = isParting(one, others - one + last);
+            for (int one = others; one > 0; one = (one - 1) & others) {
+                if (isParting(one, others - one + last)) {
+                    return true;
+                }
             }
-            return found;
+            return isParting(0, others + last);
         }
 
         private boolean isParting(int one, int other) {
